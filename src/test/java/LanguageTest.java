@@ -100,16 +100,18 @@ public final class LanguageTest extends TreePathScanner<Void, Void> {
         boolean isFinal = modifiers.contains(Modifier.FINAL);
         if (field.getType().getKind() == Kind.ARRAY_TYPE) {
             arrays.add(name);
-            checks.due(name + " is a final array of its own object", isFinal && !modifiers.contains(Modifier.STATIC), true);
+            boolean own = isFinal && !modifiers.contains(Modifier.STATIC);
+            checks.due(name + " is a final array of its own object", own, true);
             return 1;
         }
         if (!modifiers.contains(Modifier.STATIC)) {
             return 1;
         }
         constants.add(name);
-        String text = field.getType().toString();
-        checks.due(name + " is a constant of int or long", isFinal && (text.equals("int") || text.equals("long")), true);
-        checks.due(name + " is known to the compiler", callsIn(field).isEmpty() && field.getInitializer() != null, true);
+        boolean intOrLong = Set.of("int", "long").contains(field.getType().toString());
+        checks.due(name + " is a constant of int or long", isFinal && intOrLong, true);
+        boolean known = field.getInitializer() != null && callsIn(field).isEmpty();
+        checks.due(name + " is known to the compiler", known, true);
         return 0;
     }
 
@@ -193,7 +195,8 @@ public final class LanguageTest extends TreePathScanner<Void, Void> {
     @Override
     public Void visitNewArray(NewArrayTree made, Void none) {
         TreePath parent = getCurrentPath().getParentPath();
-        boolean inField = parent.getLeaf() instanceof VariableTree && parent.getParentPath().getLeaf() instanceof ClassTree;
+        boolean inVariable = parent.getLeaf() instanceof VariableTree;
+        boolean inField = inVariable && parent.getParentPath().getLeaf() instanceof ClassTree;
         checks.due(made + " is made in a field's initialiser", inField, true);
         boolean oneLength = made.getDimensions().size() == 1 && made.getInitializers() == null;
         checks.due(made + " has one length", oneLength, true);
@@ -206,7 +209,7 @@ public final class LanguageTest extends TreePathScanner<Void, Void> {
 
     @Override
     public Void visitMethodInvocation(MethodInvocationTree call, Void none) {
-        boolean own = call.getMethodSelect() instanceof IdentifierTree && callsOf.containsKey(call.getMethodSelect().toString());
+        boolean own = callsOf.containsKey(call.getMethodSelect().toString());
         checks.due(call + " is a call of the class's own", own, true);
         for (ExpressionTree argument : call.getArguments()) {
             checks.due(call + " has no call among its arguments", callsIn(argument).isEmpty(), true);

@@ -1,4 +1,4 @@
-/** One method for each promise of the document, with ordinary inputs; BoundaryTest has the edges. */
+/** One method for each promise of the document, with ordinary inputs; the boundary tests have the edges. */
 public final class PromiseTest extends Examples {
     private static final Checks checks = new Checks();
 
