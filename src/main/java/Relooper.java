@@ -251,7 +251,7 @@ public final class Relooper {
         for (int round = 0; round < BLOCKS; round++) {
             int ready = readyToOrder();
             for (int b = 0; b < BLOCKS; b++) {
-                if (has(ready, b)) {
+                if (has(ready, b) && orderedCount < BLOCKS) {
                     order[orderedCount] = b;
                     orderedCount++;
                 }
