@@ -12,6 +12,8 @@ public final class PromiseTest extends Examples {
         promise7Loops();
         promise8Merges();
         promise9Run();
+        promise9RunThroughMerges(3, 7);
+        promise9RunThroughMerges(7, 3);
         promise10Outcome();
         promise11Register();
         promise12Outs();
@@ -211,6 +213,28 @@ public final class PromiseTest extends Examples {
         order.act(0, ADD, -1);
         order.run(1, 0);
         checks.due("the action comes before the way on", order.visits(2), 1);
+    }
+
+    /** Two merges, the first of which leads on to the second, whichever has the lower number. */
+    private static void promise9RunThroughMerges(int merge, int later) {
+        Relooper x = new Relooper();
+        x.way(0, TEST, 1, 2);
+        x.act(1, ADD + 2, 1);
+        x.way(1, TEST + 1, merge, later);
+        x.act(2, ADD + 2, 2);
+        x.way(2, TEST + 1, later, merge);
+        x.act(merge, ADD + 2, 10);
+        x.way(merge, GO, later, 0);
+        x.act(later, PUT + 2, 0);
+        checks.due("merges", x.merges(), 1 << merge | 1 << later);
+        int[][] runs = {{1, 1, 11, 4}, {1, 0, 1, 3}, {0, 1, 2, 3}, {0, 0, 12, 4}};
+        for (int[] run : runs) {
+            String name = "through " + merge + " and " + later + " with " + run[0] + ", " + run[1];
+            checks.due(name, x.run(run[0], run[1]), 1);
+            checks.due(name + " outs", x.outs(), 1);
+            checks.due(name + " lastOut", x.lastOut(0), run[2]);
+            checks.due(name + " carried", x.carried(), run[3]);
+        }
     }
 
     private static void promise10Outcome() {

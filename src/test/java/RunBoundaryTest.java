@@ -233,7 +233,8 @@ public final class RunBoundaryTest extends Sentences {
 
     private static void lastOutOfOthers() {
         Relooper x = putsDown();
-        for (int n : new int[] {0, 1, 8, 9, 38, 100}) {
+        // From many to few: behind the last number still stands one of a run before.
+        for (int n : new int[] {100, 38, 9, 8, 1, 0}) {
             x.run(n, 0);
             for (int k : new int[] {-1, -2, 8, 9, 31, 32, 37, 39, 40, 79, 80, 81, 256, 65536, MIN, MAX}) {
                 checks.due("lastOut " + k + " of " + n, x.lastOut(k), 0);
